@@ -139,8 +139,15 @@ public final class PromiseTests {
     due("4 nothing to undo", x.undo(), STATE);
     due("4 no hours", x.knocker(0, 2), 0);
     due("4 the trace goes on", x.trace(), 1);
+    x.hoarse(0, 5);
     due("4 an empty text", x.house(), 0);
     due("4 nobody", x.count(0), 0);
+    due("4 nothing to undo behind it", x.undo(), STATE);
+    Checks.type(x, "loud 1;");
+    due("4 loud", x.house(), 1);
+    Checks.type(x, "loud 2;");
+    due("4 loud again, in another text", x.house(), 1);
+    due("4 what was told last", x.now(4), 4);
     mostOfAll();
   }
 
@@ -166,6 +173,12 @@ public final class PromiseTests {
     due("4 an errand's own sign", Checks.fault("errand 3 1 3;"), -1);
     due("4 words run together", Checks.fault("loudloud;"), 0);
     due("4 a word cut short", Checks.fault("lou ;"), 0);
+    due("4 a letter too many", Checks.fault("loudz;"), 0);
+    due("4 a letter too many ahead", Checks.fault("aloud;"), 0);
+    due("4 a byte behind z", Checks.fault("loud{"), 4);
+    due("4 a byte ahead of a", Checks.fault("loud`"), 4);
+    due("4 a byte behind 9", Checks.fault("loud 1:"), 6);
+    due("4 a byte ahead of 0", Checks.fault("loud 1/"), 6);
     due("4 a capital", Checks.fault("Loud;"), 0);
     due("4 an underscored word", Checks.fault("loud_;"), 4);
     due("4 numbers run together", Checks.fault("loud 01;"), 5);
@@ -470,6 +483,7 @@ public final class PromiseTests {
     due("16 the rules there are do not matter", x.ask(0), 1);
     x.hoarse(0, 0);
     due("16 signs as they are", x.ask(0), NONE);
+    due("16 errands do not matter", Checks.house("knocker 1 0;knocker 0;errand 0 1 9;").ask(0), 1);
     due("16 no such what", x.ask(2), BAD);
     due("16 what below", x.ask(-1), BAD);
     WhitePaw nobody = new WhitePaw();
@@ -498,6 +512,13 @@ public final class PromiseTests {
     due("17 no such what", x.safe(0, 2), BAD);
     due("17 what below", x.safe(0, -1), BAD);
     due("17 changes nothing", x.knocker(1, 1), 0);
+    x = Checks.house("knocker 1 0 1 2 3 4 5 6 7;knocker 0 6 7;knocker 0 0 1 2 3 4 5 6;knocker 0 0 1 2 3 4 5 7;"
+        + "errand 0 1 9;errand 1 1 9;errand 2 1 9;errand 3 1 9;errand 4 1 9;errand 5 1 9;");
+    due("17 all signs but one", x.safe(4, 0), 223);
+    due("17 all signs but one: the number", x.safe(4, 1), 7);
+    due("17 all signs", x.safe(5, 0), 255);
+    due("17 all signs: the number", x.safe(5, 1), 8);
+    due("17 once too much", x.safe(6, 0), NONE);
     x = Checks.house("knocker 1 0 1;knocker 0;errand 0 9 9;errand 1 9 9;");
     for (int i = 0; i < 10; i++) {
       x.runs(1, 0);
