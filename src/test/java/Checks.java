@@ -31,6 +31,7 @@ final class Checks {
       long v = 0;
       for (int i = from; i < to; i++) v = v << 8 | text.charAt(i);
       answer = x.type(v, to - from);
+      if (answer < 0) throw new IllegalArgumentException("no room for: " + text);
     }
     return answer;
   }
