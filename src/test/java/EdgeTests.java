@@ -38,6 +38,7 @@ public final class EdgeTests {
     tell();
     rates();
     traces();
+    theLongestTrace();
     images();
     imagesAndTheRest();
     calls();
@@ -687,6 +688,15 @@ public final class EdgeTests {
     due("27 nothing else adds", x.trace(), trace + 12);
     due("23 nobody is there any more", x.rate(0, 0), WhitePaw.NO);
     due("27 nor does a refused one", x.trace(), trace + 12);
+  }
+
+  /** THE TRACE over as many calls as an object is good for. */
+  private static void theLongestTrace() {
+    WhitePaw x = Checks.house("knocker 1;");
+    for (int i = 1; i <= 500; i++) {
+      x.rate(5, 0);
+      if (i % 100 == 0) due("27 behind " + i + " FOXES", x.trace(), i * 100001L);
+    }
   }
 
   /** IMAGES 0, 1 keep NOW (SIGNS, HOURS, RULES). */
